@@ -96,6 +96,7 @@ public final class SeeSawHill {
     private final Tokens tokens;
     private final HillReader hillReader;
     private final LawReader lawReader;
+    private int texts;
     private final Hill now;
     private final Law rules;
     private final Diary diary;
@@ -106,6 +107,7 @@ public final class SeeSawHill {
     private final Guess guess;
     private final Past past;
     private boolean imaged;
+    private int imageTexts;
     private final Hill imageHill;
     private final Law imageRules;
     private final Diary imageDiary;
@@ -115,6 +117,7 @@ public final class SeeSawHill {
         fed = 0;
         wrongAt = NONE;
         tokens = new Tokens();
+        texts = 0;
         now = new Hill();
         rules = new Law();
         diary = new Diary();
@@ -126,6 +129,7 @@ public final class SeeSawHill {
         guess = new Guess();
         past = new Past();
         imaged = false;
+        imageTexts = 0;
         imageHill = new Hill();
         imageRules = new Law();
         imageDiary = new Diary();
@@ -173,14 +177,14 @@ public final class SeeSawHill {
         if (wrongAt != NONE) {
             throw new IllegalArgumentException();
         }
-        if (now.texts >= TEXTS_MOST) {
+        if (texts >= TEXTS_MOST) {
             throw new UnsupportedOperationException();
         }
-        spare.texts++;
+        texts++;
         spare.weigh();
         now.copyFrom(spare);
         past.forget();
-        return now.texts;
+        return texts;
     }
 
     public int law() throws IllegalArgumentException {
@@ -237,7 +241,7 @@ public final class SeeSawHill {
             case 3:
                 return now.broken[plank] ? 1 : 0;
             case 4:
-                return now.tilt[plank] + MIDDLE;
+                return now.tiltOf(plank) + MIDDLE;
             case 5:
                 return now.isLevel(plank) ? 1 : 0;
             case 6:
@@ -393,7 +397,7 @@ public final class SeeSawHill {
         for (int one = 0; one < now.planks; one++) {
             for (int other = one + 1; other < now.planks; other++) {
                 boolean whole = !now.broken[one] && !now.broken[other];
-                if (whole && now.tilt[one] == now.tilt[other]) {
+                if (whole && now.tiltOf(one) == now.tiltOf(other)) {
                     pairs++;
                 }
             }
@@ -679,6 +683,7 @@ public final class SeeSawHill {
 
     public void image() {
         imaged = true;
+        imageTexts = texts;
         imageHill.copyFrom(now);
         imageRules.copyFrom(rules);
         imageDiary.copyFrom(diary);
@@ -688,6 +693,7 @@ public final class SeeSawHill {
         if (!imaged) {
             return false;
         }
+        texts = imageTexts;
         now.copyFrom(imageHill);
         rules.copyFrom(imageRules);
         diary.copyFrom(imageDiary);
@@ -702,7 +708,7 @@ public final class SeeSawHill {
             case 1:
                 return now.things;
             case 2:
-                return now.texts;
+                return texts;
             case 3:
                 return rules.lines;
             case 4:
@@ -880,7 +886,8 @@ public final class SeeSawHill {
         }
 
         boolean skip(int code) {
-            if (tokens.code(at) != code) {
+            // Not by tokens.code(at), as this is where the longest chain of calls ends.
+            if (at >= tokens.size || tokens.codes[at] != code) {
                 return false;
             }
             at++;
@@ -1245,7 +1252,6 @@ public final class SeeSawHill {
     private static final class Hill {
         int planks;
         int things;
-        int texts;
         int snow;
         int step;
         int fall;
@@ -1262,9 +1268,8 @@ public final class SeeSawHill {
         final int[] weight;
         final int[] worth;
         final int[] home;
-        // These three follow from the rest: weigh() makes them anew behind each change.
+        // Both follow from the rest: weigh() makes them anew behind each change.
         final int[] load;
-        final int[] tilt;
         final int[] height;
 
         Hill() {
@@ -1281,14 +1286,12 @@ public final class SeeSawHill {
             worth = new int[THINGS_MOST];
             home = new int[THINGS_MOST];
             load = new int[HOUSES_MOST];
-            tilt = new int[PLANKS_MOST];
             height = new int[HOUSES_MOST];
         }
 
         void copyFrom(Hill other) {
             planks = other.planks;
             things = other.things;
-            texts = other.texts;
             snow = other.snow;
             step = other.step;
             fall = other.fall;
@@ -1308,7 +1311,6 @@ public final class SeeSawHill {
             System.arraycopy(other.worth, 0, worth, 0, THINGS_MOST);
             System.arraycopy(other.home, 0, home, 0, THINGS_MOST);
             System.arraycopy(other.load, 0, load, 0, HOUSES_MOST);
-            System.arraycopy(other.tilt, 0, tilt, 0, PLANKS_MOST);
             System.arraycopy(other.height, 0, height, 0, HOUSES_MOST);
         }
 
@@ -1352,11 +1354,14 @@ public final class SeeSawHill {
                 }
             }
             for (int plank = 0; plank < planks; plank++) {
-                int first = 2 * plank;
-                tilt[plank] = propped[plank] ? 0 : leaning(load[first], load[first + 1]);
-                height[first] = broken[plank] ? 0 : MIDDLE + tilt[plank];
-                height[first + 1] = broken[plank] ? 0 : MIDDLE - tilt[plank];
+                int tilt = tiltOf(plank);
+                height[2 * plank] = broken[plank] ? 0 : MIDDLE + tilt;
+                height[2 * plank + 1] = broken[plank] ? 0 : MIDDLE - tilt;
             }
+        }
+
+        int tiltOf(int plank) {
+            return propped[plank] ? 0 : leaning(load[2 * plank], load[2 * plank + 1]);
         }
 
         /** TILT under two LOADS of a PLANK that is not PROPPED. */

@@ -89,7 +89,7 @@ public final class LanguageTest {
                 if (!Modifier.isStatic(f.getModifiers())) fields++;
                 else if (!Modifier.isFinal(f.getModifiers())) say("static and not final: " + f);
             }
-            if (fields > 22) say(c + " has " + fields + " fields");
+            if (fields > 20) say(c + " has " + fields + " fields");
             for (Method m : c.getDeclaredMethods()) if (m.getParameterCount() > 7) say("too many parameters: " + m);
         }
     }

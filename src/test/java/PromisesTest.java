@@ -778,6 +778,10 @@ public final class PromisesTest {
         due("at least five", has(y, 0, false, 0, 0), 638);
         due("exactly none", has(y, 0, false, 0, 5), 1);
         due("nothing is as now", y.count(11), 1023);
+        // Loads 0 and 61 by 40: an ounce more is seen first with 20 guests, where 39 becomes 40.
+        SeeSawHill z = of("plank 400;thing 1 worth 99 in 0;thing 60 worth 0 in 1;thing 1 worth 0 in 1;step 40;thieves 100");
+        z.weeks(1);
+        due("ask with the most", ask(z, 0), 20);
         due("ask all", ask(y, 0), 0);
     }
 
@@ -971,6 +975,15 @@ public final class PromisesTest {
         due("60 ago", y.log(60, 0), -2);
         y.undo();
         due("undone, the oldest is there again", y.led(1, false), 1);
+        due("and the latest, from", y.log(0, 2), 1);
+        due("and the latest, to", y.log(0, 3), 0);
+        due("and one ahead of it", y.log(1, 2), 0);
+        y.image();
+        for (int i = 0; i < 70; i++) y.carry(1, 1);
+        due("all rows are new", y.led(0, false), 0);
+        y.back();
+        due("behind back none is", y.led(1, false), 1);
+        for (int ago = 0; ago < 59; ago++) due("row " + ago, y.log(ago, 3), ago % 2);
     }
 
     private static void seeds() {
