@@ -1,12 +1,5 @@
-import java.nio.charset.StandardCharsets;
-import java.util.NoSuchElementException;
-
 /** Each promise of the document by hand: ordinary inputs, the edges that it names, and wrong inputs. */
-public final class PromisesTest {
-    private static final int NONE = SeeSawHill.NONE;
-    private static int asked = 0;
-    private static int wrong = 0;
-
+public final class PromisesTest extends Checks {
     public static void main(String[] args) {
         newObject();
         tape();
@@ -42,106 +35,7 @@ public final class PromisesTest {
         undoing();
         images();
         counts();
-        System.out.println("PromisesTest: " + asked + " asked, " + wrong + " wrong");
-        if (wrong != 0) System.exit(1);
-    }
-
-    // ---- Helpers
-
-    private interface Call {
-        Object run();
-    }
-
-    private static void due(String what, Object got, Object want) {
-        asked++;
-        if (!want.equals(got)) {
-            wrong++;
-            System.out.println(what + " answered " + got + ", due is " + want);
-        }
-    }
-
-    private static void fails(String what, Class<?> want, Call call) {
-        Object got;
-        try {
-            got = call.run();
-        } catch (RuntimeException e) {
-            got = e.getClass();
-        }
-        due(what, got, want);
-    }
-
-    private static void outOfBounds(String what, Call call) {
-        fails(what, IndexOutOfBoundsException.class, call);
-    }
-
-    private static void illegal(String what, Call call) {
-        fails(what, IllegalArgumentException.class, call);
-    }
-
-    private static void noSuch(String what, Call call) {
-        fails(what, NoSuchElementException.class, call);
-    }
-
-    private static void cannotBe(String what, Call call) {
-        fails(what, IllegalStateException.class, call);
-    }
-
-    private static void put(SeeSawHill x, byte[] bytes) {
-        for (int at = 0; at < bytes.length; at += 20) {
-            int[] n = new int[5];
-            for (int i = 0; i < 20; i++) {
-                n[i / 4] = n[i / 4] << 8 | (at + i < bytes.length ? bytes[at + i] & 255 : 0);
-            }
-            x.feed(n[0], n[1], n[2], n[3], n[4]);
-        }
-        x.end(bytes.length);
-    }
-
-    private static void put(SeeSawHill x, String text) {
-        x.end(0);
-        put(x, text.getBytes(StandardCharsets.ISO_8859_1));
-    }
-
-    private static int hill(SeeSawHill x, String text) {
-        put(x, text);
-        return x.hill();
-    }
-
-    private static int law(SeeSawHill x, String text) {
-        put(x, text);
-        return x.law();
-    }
-
-    private static SeeSawHill of(String text) {
-        SeeSawHill x = new SeeSawHill();
-        hill(x, text);
-        return x;
-    }
-
-    private static SeeSawHill of(String text, String law) {
-        SeeSawHill x = of(text);
-        law(x, law);
-        return x;
-    }
-
-    private static String repeat(String text, int n) {
-        return text.repeat(n);
-    }
-
-    private static void wrongHill(String before, String text, int at) {
-        SeeSawHill x = of(before);
-        illegal("hill '" + text + "'", () -> hill(x, text));
-        due("fault of hill '" + text + "'", x.fault(), at);
-        due("texts behind '" + text + "'", x.count(2), 1);
-        due("tape behind '" + text + "'", x.end(1), false);
-    }
-
-    private static void wrongLaw(String text, int at) {
-        SeeSawHill x = new SeeSawHill();
-        law(x, "rent 1;rent 2");
-        illegal("law '" + text + "'", () -> law(x, text));
-        due("fault of law '" + text + "'", x.fault(), at);
-        due("lines behind '" + text + "'", x.count(3), 2);
+        finish("PromisesTest");
     }
 
     // ---- Promises 1 to 6
@@ -517,16 +411,6 @@ public final class PromisesTest {
         due("acts", x.count(14), 2);
     }
 
-    /** DRAW by the document: bits 16 to 30 of a seed that goes round. */
-    private static int[] draws(int seed, int n) {
-        int[] all = new int[n];
-        for (int i = 0; i < n; i++) {
-            seed = 1103515245 * seed + 12345;
-            all[i] = seed >>> 16 & 0x7fff;
-        }
-        return all;
-    }
-
     private static void weekByWeek() {
         int[] d = draws(1, 6);
         SeeSawHill x = of("plank 400;fall 100;snow 5;fee 0");
@@ -710,24 +594,6 @@ public final class PromisesTest {
         SeeSawHill w = of("plank 99;plank 99;thing 30 worth 1 in 0;thing 10 worth 1 in 1;thing 20 worth 1 in 2");
         // 30, 10, 20, 0: (0 1)(2 3) 40, (0 2)(1 3) 20, (0 3)(1 2) 40.
         due("with the least that can be", w.match(15, 1), 3);
-    }
-
-    private static byte[] told(int... bytes) {
-        byte[] all = new byte[bytes.length];
-        for (int i = 0; i < bytes.length; i++) all[i] = (byte) bytes[i];
-        return all;
-    }
-
-    private static int has(SeeSawHill x, int plank, boolean sure, int... bytes) {
-        x.end(0);
-        put(x, told(bytes));
-        return x.has(plank, sure);
-    }
-
-    private static int ask(SeeSawHill x, int plank, int... bytes) {
-        x.end(0);
-        put(x, told(bytes));
-        return x.ask(plank);
     }
 
     private static void hasAndAsk() {
