@@ -126,6 +126,14 @@ public final class PromisesEdgesTest extends Checks {
         z.end(0);
         due("an empty text", z.hill(), 2);
         due("fee as before", z.count(9), 45);
+        put(z, "fee 123");
+        z.end(6);
+        due("cut within a number", z.hill(), 3);
+        due("fee 12", z.count(9), 12);
+        put(z, "plank 10 aged");
+        z.end(12);
+        illegal("cut within a word", () -> z.hill());
+        due("the word that is left is right", z.fault(), 12);
     }
 
     private static void hillTexts() {
@@ -520,7 +528,11 @@ public final class PromisesEdgesTest extends Checks {
         illegal("height 11", () -> has(x, 0, false, 0, 11));
         illegal("guests 255", () -> has(x, 0, true, 255, 0));
         illegal("height 255", () -> has(x, 0, true, 0, 255));
-        illegal("guests 20 behind others", () -> has(x, 0, true, 20, 0, 20, 0, 21, 0));
+        for (int at = 0; at < 40; at++) {
+            int[] one = new int[40];
+            one[at] = at % 2 == 0 ? 21 : 11;
+            illegal("wrong at " + at, () -> has(small(), 0, true, one));
+        }
         due("guests 20, height 0", has(x, 0, false, 20, 0), 2);
         due("guests 0, height 10", has(x, 0, false, 0, 10), 0);
         for (int plank : NO_PLANK) outOfBounds("has of " + plank, () -> has(x, plank, false));
@@ -634,6 +646,15 @@ public final class PromisesEdgesTest extends Checks {
         due("height in 59", x.ahead(1, 59, false), 7);
         due("height in 60", x.ahead(1, 60, false), 0);
         due("height in 100", x.ahead(1, 100, false), 0);
+        SeeSawHill y = of("plank 40;plank 50;plank 60;fee 1;snow 18;purse 2 200;purse 5 300");
+        // Broken in weeks 5, 15 and 25.
+        due("of the first plank", y.ahead(0, 5, false), 0);
+        due("of the second one, whole", y.ahead(2, 14, false), 5);
+        due("of the second one", y.ahead(2, 15, false), 0);
+        due("its purse", y.ahead(2, 100, true), 200 - 75);
+        due("of the third one, whole", y.ahead(5, 24, false), 5);
+        due("of the third one", y.ahead(5, 25, false), 0);
+        due("its purse, too", y.ahead(5, 100, true), 300 - 125);
         int[] others = {-1, 101, Integer.MAX_VALUE, Integer.MIN_VALUE};
         for (int n : others) {
             illegal("ahead " + n, () -> x.ahead(1, n, false));

@@ -92,6 +92,12 @@ public final class QuestionsEdgesTest extends Checks {
         due("broken pays no more", x.house(6, 0), 85);
         due("nor the second one", x.house(7, 0), 85);
         due("the others do", x.house(4, 0), 70);
+        SeeSawHill z = of("plank 10;plank 400;snow 60;fee 1", "rent 7");
+        z.weeks(1);
+        due("by the law, too", z.house(0, 0), 100 - 5 - 7);
+        z.weeks(1);
+        due("broken pays nothing by the law", z.house(0, 0), 100 - 5 - 7);
+        due("a whole one does", z.house(2, 0), 100 - 24);
         SeeSawHill y = of("plank 400;snow 20;fee 0;thing 30 worth 9 in 1;thieves 100", "rent 1 if load > 19;rent 2 if load > 39;rent 4 if week > 0;rent 8 if aged > 0");
         y.weeks(1);
         due("behind the snow", y.house(0, 0), 100);
@@ -314,6 +320,15 @@ public final class QuestionsEdgesTest extends Checks {
         due("no 61st", x.log(60, 0), -2);
         x.weeks(2);
         due("a thief too many leaves none", x.log(0, 0), 2);
+        SeeSawHill y = of("plank 400;thing 1 worth 1 in 0;thing 1 worth 1 in 0");
+        y.carry(1, 1);
+        for (int i = 0; i < 59; i++) y.carry(0, i % 2);
+        y.carry(0, 0);
+        y.undo();
+        due("undone, the 60th ago is there again", y.log(59, 1), 1);
+        due("and the latest is the one before", y.log(0, 3), 0);
+        due("60 are there", y.count(13), 60);
+        for (int ago = 0; ago < 59; ago++) due("row " + ago + " is as before", y.log(ago, 3), ago % 2);
         due("nothing more to take", x.count(11), 3);
     }
 
@@ -329,6 +344,8 @@ public final class QuestionsEdgesTest extends Checks {
         due("view without the broken", x.view(), 8 + 16 + 64);
         due("well with both of it", x.well(), 4 + 32 + 128 + 256 + 512);
         due("nobody", new SeeSawHill().view() + new SeeSawHill().well(), 0);
+        due("the view of house 0", of("plank 99;thing 10 worth 1 in 1").view(), 1);
+        due("the well of house 0", of("plank 99;thing 10 worth 1 in 0").well(), 1);
         due("level has neither", of("plank 99").view() + of("plank 99").well(), 0);
     }
 
@@ -405,6 +422,10 @@ public final class QuestionsEdgesTest extends Checks {
         SeeSawHill z = of("plank 99;thing 5 worth 1 in 0;thing 3 worth 1 in 0;thing 4 worth 1 in 0;thing 4 worth 1 in 0;step 1");
         // Load 16: level by 8 over: 5 and 3, or 4 and 4.
         due("of several the least as bits", z.stand(0, 0), 3);
+        SeeSawHill w = of("plank 99;plank 99;plank 99;thing 5 worth 1 in 0;thing 10 worth 1 in 2;thing 10 worth 1 in 3;thing 10 worth 1 in 4;step 10");
+        due("from the first house of another plank", w.stand(1, 2), 2);
+        due("from its second one", w.stand(1, -2), 4);
+        due("of the third plank", w.stand(2, 1), 8);
     }
 
     private static void heave() {
@@ -448,6 +469,15 @@ public final class QuestionsEdgesTest extends Checks {
         due("it is so", x.breaks(0), NONE);
         x.mend(0);
         due("mended", x.breaks(0), 1);
+        SeeSawHill y = of("plank 40;plank 30;snow 5", "age 4 if week > 2;age 4 if aged > 20");
+        // Both age 1 2 3 8 13 18 23 32: the one breaks above 30, the other one above 20.
+        due("by the weeks ahead", y.breaks(0), 8);
+        due("asked anew", y.breaks(0), 8);
+        due("and of another", y.breaks(1), 7);
+        y.guests(0, 4);
+        due("behind an act", y.breaks(0), 5);
+        y.undo();
+        due("undone", y.breaks(0), 8);
     }
 
     private static void more() {
@@ -476,6 +506,14 @@ public final class QuestionsEdgesTest extends Checks {
         due("guests alone", of("plank 99;guests 1 9;guests 0 2").house(1, 8), 6);
         x.prop(0, true);
         due("propped", x.house(0, 8), 5);
+        SeeSawHill z = of("plank 99;plank 99;thing 20 worth 1 in 1;thing 30 worth 1 in 3");
+        z.prop(0, true);
+        due("the first propped, its houses", z.house(1, 8), 5);
+        due("not the other's", z.house(2, 8), 8);
+        z.prop(0, false);
+        z.prop(1, true);
+        due("the second propped", z.house(2, 8), 5);
+        due("the other not", z.house(0, 8), 7);
         SeeSawHill y = of("plank 10;guests 1 9");
         y.weeks(1);
         due("broken", y.house(0, 8), 0);
@@ -533,6 +571,9 @@ public final class QuestionsEdgesTest extends Checks {
         due("then the others", v.match(63, 0), 2);
         due("of 3, too", v.match(63, 3), 4);
         due("of 5", v.match(63, 5), 1);
+        SeeSawHill u = of("plank 99;plank 99;thing 1 worth 1 in 1");
+        due("with none that is not of the set", u.match(9, 0), 3);
+        due("nor below it", u.match(12, 3), 2);
     }
 
     // ---- What somebody has
@@ -572,6 +613,17 @@ public final class QuestionsEdgesTest extends Checks {
         y.weeks(1);
         due("broken", y.plank(0, 3), 1);
         due("as if it were not", has(y, 0, false, 0, 8), 1);
+        SeeSawHill w = of("plank 99;plank 99;thing 10 worth 9 in 0;thing 20 worth 1 in 3;thing 20 worth 8 in 0;thieves 100");
+        w.weeks(2);
+        due("the first and the third are gone", w.count(11), 5);
+        due("sets of these alone", has(w, 0, false), 4);
+        due("of another plank", has(w, 1, false, 0, 7), 1);
+        due("of another plank, the third in it", has(w, 1, true, 0, 5), 4);
+        due("of another plank, both", has(w, 1, true, 0, 4), 5);
+        SeeSawHill v = of("plank 400" + repeat(";thing 1 worth 1 in 0", 10) + ";thieves 100");
+        v.weeks(10);
+        due("all sets of ten", has(v, 0, false), 1024);
+        due("of four things at most", has(v, 0, false, 1, 5), 1 + 10 + 45 + 120 + 210);
         due("none gone: the empty set", has(of("plank 99"), 0, false, 0, 5), 1);
         due("none gone, another height", has(of("plank 99"), 0, false, 0, 4), 0);
 
@@ -608,6 +660,19 @@ public final class QuestionsEdgesTest extends Checks {
         v.weeks(2);
         // 19, 9, 9, - 1 by 10: 1 0 0 0; with 2 guests 9, - 1, - 1, - 11: 0 0 0 - 1; with 4: - 1, - 11, - 11, - 21: 1 2 1.
         due("the greatest part is the least", ask(v, 0), 4);
+        due("asked anew", ask(v, 0), 4);
+        SeeSawHill t = of("plank 400;thing 3 worth 9 in 0;thieves 100;step 1;guests 1 9");
+        t.weeks(1);
+        // 45 and 42 less 5 for each guest: all at the top up to 8 guests, where 5 and 2 are two heights.
+        due("behind many at height 10", ask(t, 0), 8);
+        SeeSawHill b = of("plank 400;thing 60 worth 0 in 0;thing 60 worth 0 in 0;thing 44 worth 0 in 0;thing 1 worth 9 in 0;thieves 100;step 40");
+        b.weeks(1);
+        // - 164 and - 165 by 40: parted by 7 guests, - 199 and - 200.
+        due("at height 0", ask(b, 0), 7);
+        due("at height 0, asked anew", ask(b, 0), 7);
+        SeeSawHill a = of("plank 400;thieves 100;step 1;guests 0 9" + repeat(";thing 1 worth 1 in 0", 10));
+        a.weeks(10);
+        due("1024 that are never parted", ask(a, 0), 0);
         illegal("odd", () -> ask(v, 0, 1));
         illegal("21 guests", () -> ask(v, 0, 21, 1));
         illegal("height 11", () -> ask(v, 0, 20, 11));
@@ -671,6 +736,10 @@ public final class QuestionsEdgesTest extends Checks {
         // Behind the first thief house 0 is empty and lures by 30, house 1 by 8: he takes nothing there.
         due("loads go with what is gone", v.guards(8, 9), 0);
         due("and so does loot", v.loot(10), 9);
+        SeeSawHill s = of("plank 99;thing 11 worth 9 in 0;thing 1 worth 8 in 1", "lure 60 if load > 10");
+        due("a lure goes with what is gone", s.loot(2), 17);
+        due("so both must be guarded", s.guards(2, 7), 3);
+        due("and one against a single one", s.guards(1, 8), 1);
         SeeSawHill w = of("plank 99;plank 99;thing 1 worth 9 in 2", "lure 60 if house < 1;lure 50 if house > 0 and house < 2");
         due("empty houses lure them all", w.guards(8, 0), 0);
         SeeSawHill u = of("plank 99;plank 99;plank 99;thing 1 worth 50 in 4;thing 1 worth 50 in 1;thing 1 worth 50 in 2", "lure 60 if house > 4;lure 55 if house < 1 and not level");
@@ -736,6 +805,10 @@ public final class QuestionsEdgesTest extends Checks {
         due("no fee", of("plank 400;fee 0").poor(), NONE);
         due("broken ahead of it", of("plank 22;fee 1;snow 10;purse 1 16;purse 0 16").poor(), NONE);
         due("just ahead of breaking", of("plank 22;fee 1;snow 10;purse 1 15;purse 0 16").poor(), 3);
+        due("by the weeks ahead", of("plank 400;fee 0", "rent 50 if week > 4").poor(), 7);
+        due("by the ages ahead", of("plank 400 age 5;fee 0", "rent 50 if aged > 6").poor(), 4);
+        due("of the last plank", of("plank 400;plank 400;fee 0", "rent 50 if house > 2").poor(), 2);
+        due("of five planks", of(repeat("plank 400;", 5) + "purse 9 30").poor(), 2);
         SeeSawHill x = of("plank 10;snow 60;purse 1 15;fee 3");
         x.weeks(1);
         due("of a broken plank", x.poor(), 0);
@@ -883,8 +956,17 @@ public final class QuestionsEdgesTest extends Checks {
         x.weeks(1);
         due("stolen counts", x.led(1, false), 2);
         due("its week", x.led(1, true), 2);
+        due("not of another's latest", ledOfTwo(), 0);
         outOfBounds("no such thing", () -> x.led(2, false));
         outOfBounds("none", () -> x.led(-1, true));
+    }
+
+    private static int ledOfTwo() {
+        SeeSawHill x = of("plank 400;thing 1 worth 1 in 0;thing 1 worth 2 in 1");
+        x.carry(0, 1);
+        x.weeks(3);
+        x.carry(1, 0);
+        return x.led(0, true);
     }
 
     // ---- UNDONE, THE IMAGE
@@ -990,6 +1072,15 @@ public final class QuestionsEdgesTest extends Checks {
         due("fault stays", x.fault(), 6);
         due("the tape stays", onTape(x), 7);
         due("the same again", all(x), first);
+        SeeSawHill z = of("plank 400;thing 9 worth 9 in 0;thing 9 worth 9 in 0");
+        z.carry(0, 1);
+        z.image();
+        z.undo();
+        z.carry(1, 1);
+        due("another row", z.log(0, 1), 1);
+        z.back();
+        due("the image's row", z.log(0, 1), 0);
+        due("one row", z.count(13), 1);
         SeeSawHill y = new SeeSawHill();
         y.image();
         hill(y, "plank 99");

@@ -528,6 +528,9 @@ public final class TermsEdgesTest extends Checks {
         wrongHill(ONE, (char) 255 + "fee 1", 0);
         wrongHill(ONE, "FEE 1", 0);
         wrongHill(ONE, "fEe 1", 0);
+        wrongHill(ONE, "feez 1", 0);
+        wrongHill(ONE, "feea 1", 0);
+        wrongHill(ONE, "zfee 1", 0);
         wrongHill(ONE, "fee` 1", 3);
         wrongHill(ONE, "fee{ 1", 3);
         wrongHill(ONE, "fee /", 4);
