@@ -134,6 +134,14 @@ public final class PromisesEdgesTest extends Checks {
         z.end(12);
         illegal("cut within a word", () -> z.hill());
         due("the word that is left is right", z.fault(), 12);
+        put(z, "rent 1 if up");
+        z.end(8);
+        illegal("cut within if", () -> z.law());
+        due("the letter that is left is none", z.fault(), 7);
+        illegal("a word that 400 bytes cut", () -> hill(z, "fee 1;" + repeat(" ", 391) + "pla"));
+        due("begins there", z.fault(), 397);
+        due("a number that 400 bytes end", hill(z, repeat(" ", 394) + "fee 98"), 4);
+        due("fee 98", z.count(9), 98);
     }
 
     private static void hillTexts() {

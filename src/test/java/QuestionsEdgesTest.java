@@ -574,6 +574,8 @@ public final class QuestionsEdgesTest extends Checks {
         SeeSawHill u = of("plank 99;plank 99;thing 1 worth 1 in 1");
         due("with none that is not of the set", u.match(9, 0), 3);
         due("nor below it", u.match(12, 3), 2);
+        SeeSawHill t = of("plank 99;plank 99;thing 1 worth 1 in 0;thing 2 worth 1 in 2;thing 2 worth 1 in 3");
+        due("never with itself", t.match(15, 0), 1);
     }
 
     // ---- What somebody has
