@@ -757,23 +757,33 @@ public final class SeeSawHill {
         /** The text's end counts as a token, too, so that what is missing is wrong there. */
         void split(byte[] text, int length) {
             size = 0;
-            int at = 0;
-            while (at < length) {
-                int sign = text[at] & 255;
-                int to = at + 1;
-                if (isLetter(sign)) {
-                    to = lettersEnd(text, at, length);
-                    add(wordCode(text, at, to), 0, at);
-                } else if (isDigit(sign)) {
-                    to = digitsEnd(text, at, length);
-                    boolean isLong = to - at > DIGITS_MOST;
-                    add(isLong ? LONG_NUMBER : NUMBER, isLong ? 0 : valueOf(text, at, to), at);
-                } else if (sign != ' ') {
-                    add(sign, 0, at);
+            int behind = 0;
+            for (int at = 0; at < length; at++) {
+                if (at >= behind) {
+                    behind = addFrom(text, at, length);
                 }
-                at = to;
             }
             add(TEXT_END, 0, length);
+        }
+
+        /** Adds what begins at a byte (a blank is nothing): where it ends. */
+        private int addFrom(byte[] text, int at, int length) {
+            int sign = text[at] & 255;
+            if (isLetter(sign)) {
+                int to = lettersEnd(text, at, length);
+                add(wordCode(text, at, to), 0, at);
+                return to;
+            }
+            if (isDigit(sign)) {
+                int to = digitsEnd(text, at, length);
+                boolean isLong = to - at > DIGITS_MOST;
+                add(isLong ? LONG_NUMBER : NUMBER, isLong ? 0 : valueOf(text, at, to), at);
+                return to;
+            }
+            if (sign != ' ') {
+                add(sign, 0, at);
+            }
+            return at + 1;
         }
 
         private static boolean isLetter(int sign) {

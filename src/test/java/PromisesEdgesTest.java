@@ -160,6 +160,7 @@ public final class PromisesEdgesTest extends Checks {
         illegal("a wrong 13th", () -> hill(x, "plank"));
         due("its fault", x.fault(), 5);
         tooMany("a right 13th", () -> hill(x, "plank 97"));
+        due("it was read, and has no fault", x.fault(), NONE);
         due("there are 12", x.count(2), 12);
         due("planks", x.count(0), 2);
         due("used up by that, too", onTape(x), 0);

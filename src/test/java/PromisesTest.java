@@ -376,6 +376,15 @@ public final class PromisesTest extends Checks {
         due("age then", x.plank(0, 1), 0);
         cannotBe("mended", () -> x.mend(0));
         due("more", x.more(0), 35);
+        x.prop(0, true);
+        x.guests(0, 9);
+        due("a load above what it bears breaks it", x.weeks(1), 0);
+        due("broken, though propped", x.plank(0, 3), 1);
+        due("mend a propped one", x.mend(0), 1);
+        due("it stays propped", x.plank(0, 2), 1);
+        due("whole, though too much is on it until a week goes by", x.plank(0, 3), 0);
+        due("level by its prop", x.plank(0, 5), 1);
+        due("it bears less than nothing", x.more(0), -5);
     }
 
     private static void giving() {
